@@ -674,17 +674,13 @@ public final class LostTicket {
 
         private int nextFree(int free, int own) {
             for (int steps = 1; steps < seats; steps++) {
-                int seat = rightOf(own, steps);
-                if (has(free, seat)) {
-                    return 1 << seat;
+                int far = own + steps;
+                int bit = 1 << (far >= seats ? far - seats : far);
+                if ((free & bit) != 0) {
+                    return bit;
                 }
             }
             return 0;
-        }
-
-        private int rightOf(int seat, int steps) {
-            int far = seat + steps;
-            return far >= seats ? far - seats : far;
         }
 
         /** How many SEATS a near one passes over from one's own on to another. */
@@ -827,7 +823,8 @@ public final class LostTicket {
         private final int[] row = new int[MOST_ORDERED];
         // Behind d who were let in only sets of d SEATS count, so that one row serves all depths.
         private final long[] reach = new long[SETS];
-        private final long[] takenBehind = new long[MOST_ORDERED * MOST_SEATS];
+        // Of each depth and SEAT: how likely it is taken; at depth 0 none is.
+        private final long[] takenBehind = new long[(MOST_ORDERED + 1) * MOST_SEATS];
 
         Doors(House house) {
             this.house = house;
@@ -848,8 +845,11 @@ public final class LostTicket {
                 keep(cost);
                 return;
             }
-            addUpTaken(depth);
             if (cost + leastToCome(depth, inside) >= least) {
+                return;
+            }
+            if (onlyLostOutside(inside)) {
+                letInLost(depth, inside, cost);
                 return;
             }
             for (int person = 0; person < house.people; person++) {
@@ -863,6 +863,29 @@ public final class LostTicket {
                     letIn(depth + 1, inside | 1 << person, more);
                 }
             }
+        }
+
+        private boolean onlyLostOutside(int inside) {
+            for (int person = 0; person < house.people; person++) {
+                if (!House.has(inside, person) && house.kinds[person] != LOST) {
+                    return false;
+                }
+            }
+            return true;
+        }
+
+        /** One behind the other they sit on any free SEATS alike: none is worse off for being later. */
+        private void letInLost(int depth, int inside, long cost) {
+            long sum = cost;
+            int at = depth;
+            for (int person = 0; person < house.people && at < MOST_ORDERED; person++) {
+                if (!House.has(inside, person)) {
+                    sum += wrongNext(depth, person);
+                    row[at] = person;
+                    at++;
+                }
+            }
+            keep(sum);
         }
 
         private void keep(long cost) {
@@ -883,36 +906,24 @@ public final class LostTicket {
             return false;
         }
 
-        private void addUpTaken(int depth) {
-            int base = depth * MOST_SEATS;
-            for (int seat = 0; seat < MOST_SEATS; seat++) {
-                takenBehind[base + seat] = 0;
-            }
-            int set = (1 << depth) - 1;
-            for (int i = 0; i < SETS && set <= house.allSeats(); i++) {
-                if (reach[set] != 0) {
-                    for (int seat = 0; seat < house.seats; seat++) {
-                        takenBehind[base + seat] += House.has(set, seat) ? reach[set] : 0;
-                    }
-                }
-                set = nextAsLarge(set);
-            }
-        }
-
-        /** What is taken stays taken: all still outside sit wrong at least as likely as it is now. */
+        /** What is taken stays taken, and whoever comes last has the fewest free SEATS. */
         private long leastToCome(int depth, int inside) {
             long sum = 0;
+            int fewest = house.seats - house.people + 1;
             for (int person = 0; person < house.people; person++) {
                 if (!House.has(inside, person)) {
-                    sum += takenBehind[depth * MOST_SEATS + house.owns[person]];
+                    sum += wrongAmong(fewest, depth, person);
                 }
             }
             return sum;
         }
 
         private long wrongNext(int depth, int person) {
+            return wrongAmong(house.seats - depth, depth, person);
+        }
+
+        private long wrongAmong(int free, int depth, int person) {
             long ownTaken = takenBehind[depth * MOST_SEATS + house.owns[person]];
-            int free = house.seats - depth;
             if (house.kinds[person] != LOST || free <= 0) {
                 return ownTaken;
             }
@@ -921,12 +932,21 @@ public final class LostTicket {
 
         private void seatNext(int depth, int person) {
             clearSets(depth + 1);
+            copyTaken(depth);
             int set = (1 << depth) - 1;
             for (int i = 0; i < SETS && set <= house.allSeats(); i++) {
                 if (reach[set] != 0) {
-                    spread(set, house.choices(set, house.owns[person], house.kinds[person]));
+                    int choices = house.choices(set, house.owns[person], house.kinds[person]);
+                    spread(set, choices, (depth + 1) * MOST_SEATS);
                 }
                 set = nextAsLarge(set);
+            }
+        }
+
+        private void copyTaken(int depth) {
+            int base = depth * MOST_SEATS;
+            for (int seat = 0; seat < MOST_SEATS; seat++) {
+                takenBehind[base + MOST_SEATS + seat] = takenBehind[base + seat];
             }
         }
 
@@ -938,7 +958,7 @@ public final class LostTicket {
             }
         }
 
-        private void spread(int set, int choices) {
+        private void spread(int set, int choices, int base) {
             int many = Integer.bitCount(choices);
             if (many == 0) {
                 return;
@@ -947,6 +967,7 @@ public final class LostTicket {
             for (int seat = 0; seat < house.seats; seat++) {
                 if (House.has(choices, seat)) {
                     reach[set | 1 << seat] += weight;
+                    takenBehind[base + seat] += weight;
                 }
             }
         }
@@ -973,6 +994,7 @@ public final class LostTicket {
         private final int[] persons = new int[MOST_SEEN];
         private final int[] places = new int[MOST_SEEN];
         private final int[] allowed = new int[MOST_SEATS];
+        private final int[] kinds = new int[MOST_SEATS];
         // Of each loser and each one to ask: the SEATS where that one can sit, as bits.
         private final int[] answers = new int[MOST_SEATS * MOST_SEATS];
         private final long[] reach = new long[SETS];
@@ -1037,7 +1059,9 @@ public final class LostTicket {
         }
 
         private void suspect(int loser) {
-            walkForward(loser);
+            System.arraycopy(house.kinds, 0, kinds, 0, MOST_SEATS);
+            kinds[loser] = LOST;
+            walkForward();
             weights[loser] = weightAtLast();
             total += weights[loser];
             if (weights[loser] != 0) {
@@ -1046,19 +1070,14 @@ public final class LostTicket {
             }
         }
 
-        private int choicesWith(int loser, int set, int person) {
-            int kind = person == loser ? LOST : house.kinds[person];
-            return house.choices(set, house.owns[person], kind);
-        }
-
-        private void walkForward(int loser) {
+        private void walkForward() {
             Arrays.fill(reach, 0L);
             reach[0] = UNIT;
             int last = house.allSeats();
             for (int set = 0; set <= last; set++) {
                 int person = Integer.bitCount(set);
                 if (reach[set] != 0 && person < house.people) {
-                    int choices = choicesWith(loser, set, person);
+                    int choices = house.choices(set, house.owns[person], kinds[person]);
                     spread(set, choices & allowed[person], Integer.bitCount(choices));
                 }
             }
@@ -1090,8 +1109,8 @@ public final class LostTicket {
             for (int set = house.allSeats(); set >= 0; set--) {
                 int person = Integer.bitCount(set);
                 if (reach[set] != 0 && person < house.people) {
-                    int open = choicesWith(loser, set, person) & allowed[person];
-                    int ways = waysOn(set, open);
+                    int choices = house.choices(set, house.owns[person], kinds[person]);
+                    int ways = waysOn(set, choices & allowed[person]);
                     answers[loser * MOST_SEATS + person] |= ways;
                     if (ways == 0) {
                         reach[set] = 0;

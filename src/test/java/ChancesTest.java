@@ -1,3 +1,4 @@
+import java.math.BigInteger;
 import java.util.ArrayList;
 import java.util.Arrays;
 import java.util.List;
@@ -16,6 +17,10 @@ public final class ChancesTest {
         for (int round = 0; round < 6; round++) {
             look(house(8, 8), 1000 + round);
             look(house(7 + round % 2, 6), 2000 + round);
+        }
+        for (int round = 0; round < 150; round++) {
+            Naive n = house(6 + RANDOM.nextInt(3), 5 + RANDOM.nextInt(2));
+            lookAtLongOrder(n, typed(n), "order of round " + round + ": ");
         }
         CHECK.end("ChancesTest");
     }
@@ -157,6 +162,7 @@ public final class ChancesTest {
             return;
         }
         if (n.outcomes().size() * Naive.permutations(n.own.length).size() > 200000) {
+            lookAtLongOrder(n, x, name);
             return;
         }
         Naive.Ratio[] mean = new Naive.Ratio[1];
@@ -165,6 +171,32 @@ public final class ChancesTest {
             CHECK.due(name + "order " + i, x.order(i), row[i]);
         }
         ratio(name + "best", x.best(0), x.best(1), mean[0]);
+    }
+
+    /** Where writing out is too long: each row as a house of its own, by its wrong(NONE). */
+    private static void lookAtLongOrder(Naive n, LostTicket x, String name) {
+        int[] best = null;
+        Naive.Ratio least = null;
+        for (int[] row : Naive.permutations(n.own.length)) {
+            int[] own = new int[row.length];
+            char[] kind = new char[row.length];
+            for (int i = 0; i < row.length; i++) {
+                own[i] = n.own[row[i]];
+                kind[i] = n.kind[row[i]];
+            }
+            LostTicket y = typed(new Naive(n.seats, own, kind));
+            Naive.Ratio mean = new Naive.Ratio(BigInteger.valueOf(y.wrong(-1, 0)),
+                    BigInteger.valueOf(y.wrong(-1, 1)));
+            // The rows come from the least on, so that of like ones the first stays.
+            if (least == null || mean.compare(least) < 0) {
+                best = row;
+                least = mean;
+            }
+        }
+        for (int i = 0; i < best.length; i++) {
+            CHECK.due(name + "long order " + i, x.order(i), best[i]);
+        }
+        ratio(name + "long best", x.best(0), x.best(1), least);
     }
 
     private static void lookAtEvenings(Naive n, LostTicket x, String name) {
