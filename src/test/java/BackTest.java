@@ -1,3 +1,4 @@
+import java.util.ArrayList;
 import java.util.Arrays;
 import java.util.HashMap;
 import java.util.HashSet;
@@ -11,15 +12,8 @@ public final class BackTest {
 
     public static void main(String[] args) {
         for (int n = 0; n <= 5; n++) {
-            int[] right = new int[n];
-            for (int i = 0; i < n; i++) {
-                right[i] = (i * 2 + 1) % Math.max(1, n);
-            }
-            // (2 i + 1) mod n is a mix for odd n alone
-            if (n % 2 == 0) {
-                right = Naive.permutations(n).get(Naive.permutations(n).size() / 2);
-            }
-            all(n, right);
+            List<int[]> mixes = Naive.permutations(n);
+            all(n, mixes.get(mixes.size() / 2));
         }
         eight();
         refusals();
@@ -81,7 +75,7 @@ public final class BackTest {
         far.put(Arrays.toString(right), 0);
         List<int[]> now = List.of(right);
         for (int steps = 1; !now.isEmpty(); steps++) {
-            List<int[]> next = new java.util.ArrayList<>();
+            List<int[]> next = new ArrayList<>();
             for (int[] at : now) {
                 for (int[] change : Naive.permutations(n)) {
                     if (isRound(change, wholeRounds)) {
@@ -132,7 +126,7 @@ public final class BackTest {
         CHECK.due("no finding yet", x.count(8), 0);
         CHECK.due("NULL", x.back(0, 0), -11);
         CHECK.due("finding", x.count(8), 1);
-        int[][] none = {{0, 1}, {0, 0, 1}, {0, 1, 3}, {0, 1, -1}, {}};
+        int[][] none = {{0, 1}, {0, 0, 1}, {0, 1, 3}, {0, 1, -1}, {32, 1, 2}, {}};
         for (int[] at : none) {
             lay(x, at);
             CHECK.due("NOT " + Arrays.toString(at), x.back(0, 1), LostTicket.NOT);

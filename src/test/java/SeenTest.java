@@ -113,5 +113,9 @@ public final class SeenTest {
         CHECK.due("nobody to ask", x.ask(0), LostTicket.NOT);
         CHECK.due("nobody to ask", x.ask(1), LostTicket.NOT);
         CHECK.due("though there are some", x.losers(), 7);
+        x = TextsTest.typed("wwww;wwww", "0o1o2o3o4o5o6o7o");
+        CHECK.due("all eight", x.losers(), 255);
+        CHECK.due("whom of eight", x.ask(0), 0);
+        CHECK.due("all may have sat right", x.ask(1), 8);
     }
 }
