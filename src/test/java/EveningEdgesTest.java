@@ -1,5 +1,4 @@
 import java.math.BigInteger;
-import java.util.ArrayList;
 import java.util.List;
 import java.util.function.Supplier;
 
@@ -14,7 +13,7 @@ public final class EveningEdgesTest {
     public static void main(String[] args) {
         turnedNobodyLost();
         turnedAllLost();
-        turnedEveryNumber();
+        turnedSomeLost();
         turnedRefuses();
         eveningOfNobody();
         eveningOfOne();
@@ -56,72 +55,13 @@ public final class EveningEdgesTest {
         }
     }
 
-    private static void turnedEveryNumber() {
+    private static void turnedSomeLost() {
         turned(2, 1, 1, 2);
+        turned(3, 1, 5, 6);
+        turned(3, 2, 2, 3);
+        turned(5, 2, 47, 30);
         turned(9, 1, 4609, 2520);
         turned(9, 8, 8, 9);
-        for (int n = 1; n <= 9; n++) {
-            for (int k = 0; k <= n; k++) {
-                Naive.Ratio mean = turnedBySets(n, k);
-                turned(n, k, mean.part(0), mean.part(1));
-            }
-        }
-    }
-
-    /** Of each set of SEATS where losers sit: how likely it is, one who has a ticket behind the other. */
-    private static Naive.Ratio turnedBySets(int n, int k) {
-        Naive.Ratio[] now = new Naive.Ratio[1 << n];
-        Naive.Ratio each = Naive.Ratio.of(BigInteger.ONE, choose(n, k));
-        for (int set = 0; set < now.length; set++) {
-            now[set] = Integer.bitCount(set) == k ? each : Naive.ZERO;
-        }
-        Naive.Ratio mean = Naive.ZERO;
-        int came = 0;
-        for (int person = k; person < n; person++) {
-            Naive.Ratio[] next = new Naive.Ratio[1 << n];
-            java.util.Arrays.fill(next, Naive.ZERO);
-            int own = 1 << person;
-            came |= own;
-            for (int set = 0; set < now.length; set++) {
-                if (now[set] == Naive.ZERO) {
-                    continue;
-                }
-                if ((set & own) == 0) {
-                    next[set] = next[set].plus(now[set]);
-                    continue;
-                }
-                mean = mean.plus(now[set]);
-                List<Integer> free = seatsIn(((1 << n) - 1) & ~set & ~came);
-                for (int seat : free) {
-                    int moved = set & ~own | 1 << seat;
-                    next[moved] = next[moved].plus(over(now[set], free.size()));
-                }
-            }
-            now = next;
-        }
-        return mean;
-    }
-
-    private static Naive.Ratio over(Naive.Ratio r, int many) {
-        return Naive.Ratio.of(r.above(), r.below().multiply(BigInteger.valueOf(many)));
-    }
-
-    private static BigInteger choose(int n, int k) {
-        BigInteger ways = BigInteger.ONE;
-        for (int i = 0; i < k; i++) {
-            ways = ways.multiply(BigInteger.valueOf(n - i)).divide(BigInteger.valueOf(i + 1));
-        }
-        return ways;
-    }
-
-    private static List<Integer> seatsIn(int set) {
-        List<Integer> seats = new ArrayList<>();
-        for (int seat = 0; seat < 9; seat++) {
-            if ((set >> seat & 1) == 1) {
-                seats.add(seat);
-            }
-        }
-        return seats;
     }
 
     private static void turnedRefuses() {
@@ -204,7 +144,7 @@ public final class EveningEdgesTest {
     private static void lotsGoOn() {
         for (int seed : SEEDS) {
             LostTicket x = typed("wwwwwwww", "0l0l0l0l0l0l0l0l");
-            List<Integer> free = seatsIn(255);
+            List<Integer> free = TurnedTest.seatsIn(255);
             long state = seed;
             for (int person = 0; person < 8; person++) {
                 state = nextSeed(state);
@@ -217,7 +157,7 @@ public final class EveningEdgesTest {
     private static void whoSitsRightOrNearDrawsNoLot() {
         for (int seed : SEEDS) {
             LostTicket x = typed("wwwwwwww", "7o7n6s1n2l");
-            int want = seatsIn(255 & ~(1 << 7 | 1 << 0 | 1 << 6 | 1 << 1)).get(lot(nextSeed(seed), 4));
+            int want = TurnedTest.seatsIn(255 & ~(1 << 7 | 1 << 0 | 1 << 6 | 1 << 1)).get(lot(nextSeed(seed), 4));
             CHECK.due("25: the first LOT is the lost one's", x.evening(seed, 4), want);
             CHECK.due("25: near, round", x.evening(seed, 1), 0);
         }

@@ -34,6 +34,7 @@ final class Naive {
     }
 
     static final Ratio ZERO = new Ratio(BigInteger.ZERO, BigInteger.ONE);
+    static final Ratio ONE = new Ratio(BigInteger.ONE, BigInteger.ONE);
 
     final String seats;
     final int[] own;
@@ -290,8 +291,7 @@ final class Naive {
         if (sits == 0) {
             mean = turn(on, person + 1, n, k);
         } else {
-            mean = new Ratio(BigInteger.ONE, BigInteger.ONE)
-                    .plus(anywhere(on, sits - 1, person + 1, n, k));
+            mean = ONE.plus(anywhere(on, sits - 1, person + 1, n, k));
         }
         on[person] = sits;
         return mean;

@@ -3,6 +3,8 @@ import java.lang.reflect.Method;
 import java.lang.reflect.Modifier;
 import java.nio.file.Files;
 import java.nio.file.Path;
+import java.util.ArrayList;
+import java.util.List;
 import java.util.Set;
 import java.util.TreeSet;
 
@@ -13,6 +15,7 @@ public final class RulesTest {
     public static void main(String[] args) throws Exception {
         source();
         face();
+        sizes();
         room();
         CHECK.end("RulesTest");
     }
@@ -36,19 +39,31 @@ public final class RulesTest {
         CHECK.holds("plain signs", text.chars().allMatch(c -> c == '\n' || c >= 32 && c < 127));
     }
 
+    private static final String[] FACE = {
+        "int type(int,int)", "int wipe(int)", "int fault(int)", "int seat(int,int)", "int person(int,int)",
+        "long likely(int,int,int)", "long taken(int,int,int)", "long wrong(int,int)", "long left(int,int)",
+        "long looks(int)", "int judged(int)", "long sitting(int,int)", "int order(int)", "long best(int)",
+        "int back(int,int)", "int seen(int,int)", "int read(int)", "int forget()", "int losers()",
+        "long share(int,int)", "int likeliest()", "int ask(int)", "long turned(int,int,int)",
+        "int evening(int,int)", "int sheet(int,int,int)", "int lose(int)", "int lay(int,int,int,int)",
+        "int get(int,int,int)", "int copy(int,int,int,int,int)", "int write(int,int)", "int count(int)",
+        "long digest()"};
+
     private static void face() {
         Set<String> open = new TreeSet<>();
+        Set<String> told = new TreeSet<>();
+        for (String call : FACE) {
+            told.add(call.substring(call.indexOf(' ') + 1, call.indexOf('(')));
+        }
         for (Method m : LostTicket.class.getDeclaredMethods()) {
             if (Modifier.isPublic(m.getModifiers())) {
-                open.add(m.getName());
+                open.add(signature(m));
             } else {
                 CHECK.holds("private " + m.getName(), Modifier.isPrivate(m.getModifiers()));
+                CHECK.holds(m.getName() + " is no name of the face", !told.contains(m.getName()));
             }
         }
-        Set<String> told = new TreeSet<>(Set.of(("type wipe fault seat person likely taken wrong left "
-                + "looks judged sitting order best back seen read forget losers share likeliest ask "
-                + "turned evening sheet lose lay get copy write count digest").split(" ")));
-        CHECK.holds("the face as told", open.equals(told));
+        CHECK.holds("the face as told: " + open, open.equals(Set.of(FACE)));
         for (Field f : LostTicket.class.getDeclaredFields()) {
             boolean constant = Set.of("NONE", "BAD", "NOT", "FULL").contains(f.getName());
             CHECK.holds(f.getName(), Modifier.isPublic(f.getModifiers()) == constant
@@ -61,7 +76,49 @@ public final class RulesTest {
             }
         }
         CHECK.holds("final", Modifier.isFinal(LostTicket.class.getModifiers()));
-        CHECK.due("one constructor", LostTicket.class.getDeclaredConstructors().length, 1);
+        CHECK.holds("public", Modifier.isPublic(LostTicket.class.getModifiers()));
+        CHECK.due("one constructor", LostTicket.class.getConstructors().length, 1);
+        CHECK.due("and no other", LostTicket.class.getDeclaredConstructors().length, 1);
+        CHECK.due("NONE", LostTicket.NONE, -1);
+        CHECK.due("BAD", LostTicket.BAD, -2);
+        CHECK.due("NOT", LostTicket.NOT, -3);
+        CHECK.due("FULL", LostTicket.FULL, -4);
+    }
+
+    private static String signature(Method m) {
+        StringBuilder text = new StringBuilder(m.getReturnType().getName() + " " + m.getName() + "(");
+        for (Class<?> c : m.getParameterTypes()) {
+            text.append(text.charAt(text.length() - 1) == '(' ? "" : ",").append(c.getName());
+        }
+        return text.append(")").toString();
+    }
+
+    /** Rules 5 and 11: constants alone are static, few parameters, classes and fields, short methods. */
+    private static void sizes() throws Exception {
+        List<Class<?>> classes = new ArrayList<>(List.of(LostTicket.class.getDeclaredClasses()));
+        classes.add(LostTicket.class);
+        CHECK.holds("at most twelve classes", classes.size() <= 12);
+        for (Class<?> c : classes) {
+            int fields = 0;
+            for (Field f : c.getDeclaredFields()) {
+                boolean fixed = Modifier.isStatic(f.getModifiers());
+                fields += fixed ? 0 : 1;
+                CHECK.holds(f + " is final", !fixed || Modifier.isFinal(f.getModifiers()));
+            }
+            CHECK.holds(c + " has at most twenty fields", fields <= 20);
+            for (Method m : c.getDeclaredMethods()) {
+                CHECK.holds(m + " takes at most seven", m.getParameterCount() <= 7);
+            }
+        }
+        List<String> lines = Files.readAllLines(Path.of("src/main/java/LostTicket.java"));
+        for (int i = 0; i < lines.size(); i++) {
+            String line = lines.get(i);
+            if (line.matches(" {4}(?: {4})?[a-zA-Z].*\\) \\{")) {
+                String end = line.startsWith("     ") ? "        }" : "    }";
+                int length = lines.subList(i, lines.size()).indexOf(end) + 1;
+                CHECK.holds("a short method: " + line, length > 0 && length <= 60);
+            }
+        }
     }
 
     /** All rows are made by the constructor: no call makes an object, so that a run's room is small. */
